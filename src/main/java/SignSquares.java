@@ -34,14 +34,12 @@ public final class SignSquares {
     /** Ten signs, the nine joints between them, and one joint that a text may tell before an 11th sign. */
     private static final int ROOM = 24;
 
-    private final byte[] tape = new byte[MOST_TAPE];
-    private int taped = 0;
     private Table table = new Table();
     private Moment now = new Moment(new Line[0], FIRST_SIDE, FIRST_GAP);
     private final Moment[] past = new Moment[MOST_ACTS];
     private int acts = 0;
     private final Draft draft = new Draft();
-    private final Reader reader = new Reader(tape, draft);
+    private final Reader reader = new Reader();
     private final Layout layout = new Layout();
     private final Speller speller = new Speller();
     private final Arranger arranger = new Arranger();
@@ -52,35 +50,27 @@ public final class SignSquares {
     // ---- told
 
     public int feed(int a, int b, int c, int d, int e) {
-        if (taped + 20 > MOST_TAPE) {
+        if (reader.taped + 20 > MOST_TAPE) {
             return NONE;
         }
-        feedFour(a);
-        feedFour(b);
-        feedFour(c);
-        feedFour(d);
-        feedFour(e);
-        return taped;
-    }
-
-    private void feedFour(int bytes) {
-        for (int shift = 24; shift >= 0 && taped < MOST_TAPE; shift -= 8) {
-            tape[taped] = (byte) (bytes >> shift);
-            taped++;
-        }
+        reader.takeFour(a);
+        reader.takeFour(b);
+        reader.takeFour(c);
+        reader.takeFour(d);
+        reader.takeFour(e);
+        return reader.taped;
     }
 
     public int back(int n) {
-        if (n < 0 || n > taped) {
+        if (n < 0 || n > reader.taped) {
             return NONE;
         }
-        taped -= n;
-        return taped;
+        reader.taped -= n;
+        return reader.taped;
     }
 
     public int text() {
-        reader.begin(taped);
-        taped = 0;
+        reader.begin();
         if (!reader.readAll()) {
             return FAULTS - reader.at;
         }
@@ -475,7 +465,7 @@ public final class SignSquares {
             case 4: return now.side;
             case 5: return now.gap;
             case 6: return acts;
-            case 7: return taped;
+            case 7: return reader.taped;
             case 8: return table.cores();
             default: return NONE;
         }
@@ -1004,12 +994,13 @@ public final class SignSquares {
         }
     }
 
-    /** Reads a text; where it cannot go on, it stands at the fault. */
+    /** Has the tape, and reads it as a text; where it cannot go on, it stands at the fault. */
     private static final class Reader {
+        private final byte[] tape = new byte[MOST_TAPE];
+        private int taped = 0;
+        private final Draft draft = new Draft();
         private final Square[] squaresRead = new Square[MOST_SQUARES];
         private final Line[] linesRead = new Line[MOST_LINES];
-        private final byte[] tape;
-        private final Draft draft;
         private int length = 0;
         private int at = 0;
         private Table table = new Table();
@@ -1018,13 +1009,16 @@ public final class SignSquares {
         private int gap = FIRST_GAP;
         private int signs = 0;
 
-        Reader(byte[] tape, Draft draft) {
-            this.tape = tape;
-            this.draft = draft;
+        void takeFour(int bytes) {
+            for (int shift = 24; shift >= 0 && taped >= 0 && taped < tape.length; shift -= 8) {
+                tape[taped] = (byte) (bytes >> shift);
+                taped++;
+            }
         }
 
-        void begin(int taped) {
-            length = Math.min(taped, tape.length);
+        void begin() {
+            length = taped;
+            taped = 0;
             at = 0;
             table = new Table();
             lines = 0;

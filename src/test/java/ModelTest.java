@@ -280,7 +280,10 @@ public final class ModelTest {
         due(where("ways"), x.ways(l, q), m.ways(l, q));
         due(where("best " + w), x.best(l, q, w), m.best(l, q, w));
         due(where("bestText " + n), x.bestText(l, q, n), m.bestText(l, q, n));
-        due(where("bestText"), x.bestText(l, q, -1), m.bestText(l, q, -1));
+        int length = m.bestText(l, q, -1);
+        for (int k = -1; k < length; k++) {
+            due(where("bestText " + k), x.bestText(l, q, k), m.bestText(l, q, k));
+        }
     }
 
     /** Points anywhere, and points right on edges of boxes. */
