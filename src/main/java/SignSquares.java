@@ -1314,7 +1314,7 @@ public final class SignSquares {
         }
 
         /** Answers where the next part begins. Each call within goes on at a later place, so a square's length bounds the depth. */
-        int writePart(Square square, int place, int outer) {
+        private int writePart(Square square, int place, int outer) {
             if (square == null || place < 0 || place >= square.length()) {
                 return ROOM;
             }
@@ -1681,7 +1681,8 @@ public final class SignSquares {
             }
             keep(BESIDE, a, b);
             keepSize(wide[a] + gap + wide[b], Math.max(high[a], high[b]));
-            keepText((partText(a) * 8 + STAR << 3 * partDigits(b)) + partText(b), partDigits(a) + 1 + partDigits(b));
+            keepText(((partText(a) * 8 + STAR) << (3 * partDigits(b))) + partText(b),
+                    partDigits(a) + 1 + partDigits(b));
             forms++;
         }
 
@@ -1691,7 +1692,7 @@ public final class SignSquares {
             }
             keep(ABOVE, a, b);
             keepSize(Math.max(wide[a], wide[b]), high[a] + gap + high[b]);
-            keepText((text[a] * 8 + COLON << 3 * digits[b]) + text[b], digits[a] + 1 + digits[b]);
+            keepText(((text[a] * 8 + COLON) << (3 * digits[b])) + text[b], digits[a] + 1 + digits[b]);
             forms++;
         }
 
@@ -1722,7 +1723,7 @@ public final class SignSquares {
         }
 
         private long partText(int form) {
-            return kind[form] == ABOVE ? ((OPENING << 3 * digits[form]) + text[form]) * 8 + CLOSING : text[form];
+            return kind[form] == ABOVE ? ((OPENING << (3 * digits[form])) + text[form]) * 8 + CLOSING : text[form];
         }
 
         private int bestForm(int span, int side) {
