@@ -42,7 +42,8 @@ public final class RoomTest {
             case 2:
                 return x.text();
             case 3:
-                return x.spell(-1, -1, n) + x.at(0, 1, n, n, 40) + x.box(0, 1, n % 10, n % 5, n % 2);
+                return n % 3 == 0 ? x.spell(-1, -1, n / 3)
+                        : n % 3 == 1 ? x.at(0, 1, n, n, 40) : x.box(0, 1, n % 10, n % 5, n % 2);
             default:
                 return new SignSquares().count(4);
         }
