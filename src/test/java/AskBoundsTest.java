@@ -40,6 +40,7 @@ public final class AskBoundsTest {
         ways();
         bestBeyond();
         bestAtBounds();
+        bestAgain();
         bestOfSeveral();
         bestText();
         joined();
@@ -632,6 +633,36 @@ public final class AskBoundsTest {
         dueBest("side 1;" + q, "q*q", "q*q", 1, 8);
         dueBest("side 24;" + q, "q<q:q>:q<q*q>:q:q:q:q", "q<q:q>*q<q*q>*q*q*q*q", 1, 1);
         dueBest("side 1;gap 3;sign m 12 12;", row("m", "*", 6), "m*m*m:m*m*m", 1, 42);
+        // the gaps count: 3 by 2 thrice is 9, 11, 13 wide; 6 by 5 thrice is 15 wide, two above one another
+        dueBest("gap 0;sign b 3 2;", "b:b:b", "b*b*b", 1, 1);
+        dueBest("gap 1;sign b 3 2;", "b:b:b", "b*b*b", 1, 1);
+        dueBest("gap 2;sign b 3 2;", "b:b:b", "b*b:b", 1, 1);
+        dueBest("gap 3;sign f 6 5;", "f:f:f", "f*f:f", 4, 5);
+    }
+
+    /** What was best of another square, side, gap or table is not best now. */
+    private static void bestAgain() {
+        SignSquares x = Told.of("gap 0;sign f 6 5;sign b 3 2;line f:f-b:b-b:f;line f:f;");
+        for (int times = 0; times < 2; times++) {
+            TOLD.due("best of the first", Told.bestText(x, 0, 0), "f*f");
+            TOLD.due("best of the next", Told.bestText(x, 0, 1), "b*b");
+            TOLD.due("best of the third", Told.bestText(x, 0, 2), "b*f");
+            TOLD.due("best of the other line's", Told.bestText(x, 1, 0), "f*f");
+        }
+        x.gap(1);
+        TOLD.due("best with another gap", Told.bestText(x, 1, 0), "f:f");
+        x.undo();
+        TOLD.due("best with the gap as it was", Told.bestText(x, 1, 0), "f*f");
+        x.side(11);
+        TOLD.due("best with another side", Told.bestText(x, 1, 0), "f:f");
+        x.side(24);
+        TOLD.due("best with a third side", Told.bestText(x, 1, 0), "f*f");
+        x.exchange(1, 0, 0, 1);
+        TOLD.due("best of what was exchanged", Told.bestText(x, 1, 0), "b*f");
+        Told.tell(x, "side 24;gap 0;sign f 12 12;sign b 12 6;line f:b;");
+        TOLD.due("best of another text", Told.bestText(x, 0, 0), "f*b");
+        Told.tell(x, "side 12;gap 0;sign f 12 6;sign b 12 6;line f:b;");
+        TOLD.due("best of another table", Told.bestText(x, 0, 0), "f:b");
     }
 
     /** "Of several that with fewest brackets, then the first by its TEXT without blanks (bytes)." */
@@ -645,6 +676,10 @@ public final class AskBoundsTest {
         dueBest(told, "t*u*u*u*u", "t*(u*u*u:u)", 1, 1);
         dueBest(told, "u*u*u*u*t", "(u*u*u:u)*t", 1, 1);
         dueBest(told, "u*u*t*u*u", "(u:u)*t*u*u", 1, 1);
+        // (p:q)*r*t, (p:q*r)*t and (p:q:r)*t all fit with one bracket
+        dueBest("side 4;gap 0;sign p 2 1;sign q 2 1;sign r 1 1;sign t 1 4;", "p*q*r*t", "(p:q)*r*t", 1, 1);
+        dueBest("side 4;gap 0;sign p 2 1;sign q 2 1;sign r 1 1;sign t 1 4;", "t*p*q*r", "t*(p:q)*r", 1, 1);
+        dueBest("side 4;gap 0;sign p 2 1;sign q 2 1;sign r 1 1;sign t 1 4;", "t*p*r*q", "t*(p*r:q)", 1, 1);
     }
 
     private static void bestText() {

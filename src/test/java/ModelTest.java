@@ -49,7 +49,30 @@ public final class ModelTest {
                 spellAll();
             }
         }
+        for (int n = 0; n < 2500 && !TOLD.anyWrong(); n++) {
+            arrangeSmallSigns();
+        }
         TOLD.end();
+    }
+
+    /** Small signs in small squares: many arrangements are as great, and brackets and bytes decide. */
+    private static void arrangeSmallSigns() {
+        x = new SignSquares();
+        m = new Model();
+        StringBuilder s = new StringBuilder();
+        s.append("side ").append(1 + upTo(8)).append(";gap ").append(upTo(2)).append(";");
+        for (char l = 'a'; l < 'd'; l++) {
+            s.append("sign ").append(l).append(' ').append(1 + upTo(4)).append(' ').append(1 + upTo(4)).append(";");
+        }
+        s.append("line ");
+        int signs = 4 + upTo(3);
+        for (int k = 0; k < signs; k++) {
+            s.append(k == 0 ? "" : ":").append((char) ('a' + upTo(3)));
+        }
+        run = "'" + s + ";'";
+        tell(s + ";");
+        due("arrange", x.arrange(0, 0), m.arrange(0, 0));
+        spellAll();
     }
 
     private static void due(String call, long got, long want) {

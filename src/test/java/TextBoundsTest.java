@@ -228,6 +228,9 @@ public final class TextBoundsTest {
         for (int n = 0; n < 100; n++) {
             dueGood("side " + n + ";", n >= 1 && n <= 24 ? 0 : -9);
         }
+        for (int n = 1; n <= 24; n++) {
+            dueText("side " + n + ";", 0, "side " + n + ";gap 1;");
+        }
         dueText("side 1;", 0, "side 1;gap 1;");
         dueText("side 24;", 0, "side 24;gap 1;");
         dueFault("side 0;", 5);
@@ -457,12 +460,21 @@ public final class TextBoundsTest {
     }
 
     private static void dueNormal(String group, String want) {
-        SignSquares x = Told.of("sign a 4 6;sign b 3 2;sign c 8 8 core 6 4;line " + group + ";");
+        SignSquares x = Told.of("sign a 4 6;sign b 3 2;sign c 8 8 core 6 4;line " + group + "-" + want + ";");
         TOLD.due("normal " + group, Told.spelled(x, 0, 0), want);
+        due("the same as " + group, x.same(0, 0, 0, 1), 1);
+        for (int what = 0; what < 8; what++) {
+            due("square, what " + what + ", of " + group, x.square(0, 0, what), x.square(0, 1, what));
+        }
     }
 
     /** "Brackets are just around GROUPS of two ROWS or more that are one PART of several." */
     private static void normal() {
+        SignSquares x = Told.of("sign a 4 6;line (a:a):a-a:(a:a)-(a*a)*a-a*(a*a);");
+        for (int square = 0; square < 4; square++) {
+            due("rows of square " + square, x.square(0, square, 4), square < 2 ? 3 : 1);
+            due("parts of square " + square, x.square(0, square, 5), square < 2 ? 1 : 3);
+        }
         dueNormal("(a)", "a");
         dueNormal("((a))", "a");
         dueNormal("(a)*(b)", "a*b");
@@ -501,8 +513,13 @@ public final class TextBoundsTest {
             dueFault(word + " 1;", 0);
             dueFault("  " + word, 2);
         }
+        dueFaultOfAnyOtherWord("", "side", " 3;");
+        dueFaultOfAnyOtherWord("", "gap", " 3;");
+        dueFaultOfAnyOtherWord("", "sign", " a 1 1;");
+        dueFaultOfAnyOtherWord("sign a 1 1;", "line", " a;");
+        dueFaultOfAnyOtherWord("sign a 1 1;line ", "left", " a;");
+        dueFaultOfAnyOtherWord("sign a 1 1 ", "core", " 1 1;");
         dueFault("sign a 1 1;line lef a;", 16);
-        dueFault("sign a 1 1;line lefta;", 16);
         dueFault("sign a 1 1;line left left a;", 21);
         dueFault("sign a 1 1;line right a;", 16);
         dueFault("sign a 1 1 cores 1 1;", 11);
@@ -513,6 +530,20 @@ public final class TextBoundsTest {
         dueFault("sign a 1 1;line a a;", 18);
         dueFault("sign a 1 1;line A;", 16);
         dueFault("sign a 1 1;line side;", 16);
+    }
+
+    /** One letter is another one, is a capital one, is gone, or comes twice. */
+    private static void dueFaultOfAnyOtherWord(String ahead, String word, String behind) {
+        dueGood(ahead + word + behind, ahead.contains("line") || word.equals("line") ? 1 : 0);
+        for (int i = 0; i < word.length(); i++) {
+            String first = word.substring(0, i);
+            String last = word.substring(i + 1);
+            dueGood(ahead + first + "z" + last + behind, -4 - ahead.length());
+            dueGood(ahead + first + last + behind, -4 - ahead.length());
+            dueGood(ahead + first + word.charAt(i) + word.charAt(i) + last + behind, -4 - ahead.length());
+            // a capital letter ends the word ahead of it, which is another one then
+            dueGood(ahead + first + word.substring(i, i + 1).toUpperCase() + last + behind, -4 - ahead.length());
+        }
     }
 
     private static void numbers() {
