@@ -66,7 +66,9 @@ public final class ActBoundsTest {
     private static void dueAct(String what, SignSquares x, Predicate<SignSquares> call, int line, String want) {
         int before = x.spell(NONE, NONE, NONE);
         int acts = x.count(6);
+        int signs = x.count(2);
         TOLD.due(what, call.test(x), true);
+        due(what + ": no act makes signs or takes them away", x.count(2), signs);
         due(what + ": acts", x.count(6), Math.min(12, acts + 1));
         TOLD.due(what, Told.spelled(x, line, NONE), (want.startsWith("(") ? "line" : "line ") + want + ";");
         due(what + ": undone", x.undo(), Math.min(11, acts));

@@ -40,6 +40,7 @@ public final class AskBoundsTest {
         ways();
         bestBeyond();
         bestAtBounds();
+        bestThatFillsTheSquare();
         bestAgain();
         bestOfSeveral();
         bestText();
@@ -638,6 +639,20 @@ public final class AskBoundsTest {
         dueBest("gap 1;sign b 3 2;", "b:b:b", "b*b*b", 1, 1);
         dueBest("gap 2;sign b 3 2;", "b:b:b", "b*b:b", 1, 1);
         dueBest("gap 3;sign f 6 5;", "f:f:f", "f*f:f", 4, 5);
+    }
+
+    /** Each sign has one place only where all fill the square: so each of these is the one and only best. */
+    private static void bestThatFillsTheSquare() {
+        String lying = "side 4;gap 0;sign a 1 1;sign b 1 1;sign c 1 2;sign d 2 1;sign e 2 3;sign f 4 1;";
+        dueBest(lying, "a*b*c*d*e*f", "((a:b)*c:d)*e:f", 1, 1);
+        dueBest(lying, "f*e*d*c*b*a", "f:e*(d:c*(b:a))", 1, 1);
+        dueBest(lying, "f*d*a*b*c*e", "f:(d:(a:b)*c)*e", 1, 1);
+        dueBest(lying, "e*c*a*b*d*f", "e*(c*(a:b):d):f", 1, 1);
+        String standing = "side 4;gap 0;sign a 1 1;sign b 1 1;sign c 2 1;sign d 1 2;sign e 3 2;sign f 1 4;";
+        dueBest(standing, "a*b*c*d*e*f", "((a*b:c)*d:e)*f", 1, 1);
+        dueBest(standing, "f*e*d*c*b*a", "f*(e:d*(c:b*a))", 1, 1);
+        dueBest(standing, "f*d*a*b*c*e", "f*(d*(a*b:c):e)", 1, 1);
+        dueBest(standing, "e*c*a*b*d*f", "(e:(c:a*b)*d)*f", 1, 1);
     }
 
     /** What was best of another square, side, gap or table is not best now. */

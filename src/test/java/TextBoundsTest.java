@@ -31,6 +31,7 @@ public final class TextBoundsTest {
         openBoth();
         closedBracketsAreOpenNoMore();
         coreless();
+        everyLetter();
         normal();
         words();
         numbers();
@@ -457,6 +458,25 @@ public final class TextBoundsTest {
         dueFault(both + "c<>;", both.length() + 2);
         dueGood(both + "c<a>;", 1);
         dueGood(both + "c;", 1);
+    }
+
+    /** From the first letter to the last one each can be told, with a core or without, and can hold what it is told to hold. */
+    private static void everyLetter() {
+        for (char l = 'a'; l <= 'z'; l++) {
+            String sign = "sign " + l + " 8 8 core 4 4;";
+            String line = "line " + l + "<" + l + "<" + l + ":" + l + ">>*" + l + ";";
+            dueText(sign + line, 1, "side 12;gap 1;" + sign + line);
+            SignSquares x = Told.of(sign + line);
+            due("inside " + l, x.inside(0, 0, 3), 1);
+            due("signs inside " + l, x.square(0, 0, 3), 3);
+            due("how often " + l, x.sign(l - 'a', 4), 5);
+            due("letter " + l, x.letter(0, 0, 4), l - 'a');
+            due("outer signs " + l, x.ways(0, 0), 2);
+            TOLD.due("release out of " + l, x.release(0, 0, 0), true);
+            TOLD.due("released out of " + l, Told.spelled(x, 0, NONE), "line " + l + "*" + l + "-" + l + "<" + l + ":" + l + ">;");
+            TOLD.due("insert into " + l, x.insert(0, 0, 1), true);
+            TOLD.due("inserted into " + l, Told.spelled(x, 0, 0), l + "*" + l + "<" + l + "<" + l + ":" + l + ">>");
+        }
     }
 
     private static void dueNormal(String group, String want) {
