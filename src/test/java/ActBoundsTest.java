@@ -366,7 +366,8 @@ public final class ActBoundsTest {
         }
         SignSquares four = Told.of(SIGNS + "line a;line b;line a;line b;");
         dueAct("the last of four lines", four, x -> x.mirror(3), 3, "left b");
-        TOLD.due("no fifth line", four.mirror(4), false);
+        new Twins(TOLD, () -> Told.of(SIGNS + "line a;line b;line a;line b;")).dueRefused("no fifth line",
+                x -> x.mirror(4) ? 1 : 0, 0);
         new Twins(TOLD, SignSquares::new).dueRefused("mirror of a new object", x -> x.mirror(0) ? 1 : 0, 0);
     }
 

@@ -10,6 +10,7 @@ public final class TextBoundsTest {
         newObject();
         lastOfAllCalls();
         feed();
+        feedRefused();
         feedOfAllBytes();
         back();
         emptyText();
@@ -141,6 +142,20 @@ public final class TextBoundsTest {
             y.back(gone);
             due("feed with " + gone + " free", y.feed(BLANKS, BLANKS, BLANKS, BLANKS, BLANKS), gone == 20 ? 400 : NONE);
             due("the tape with " + gone + " free", y.count(7), gone == 20 ? 400 : 400 - gone);
+        }
+    }
+
+    /** "NONE, and nothing comes": neither behind what is on the tape nor over it. */
+    private static void feedRefused() {
+        for (int gone : new int[] {0, 1, 10, 19}) {
+            Twins full = new Twins(TOLD, () -> {
+                SignSquares x = base();
+                Told.tape(x, times("side 9;gap 0;", 29) + "side 7;" + times(" ", 16));
+                x.back(gone);
+                return x;
+            });
+            full.dueRefused("feed with " + gone + " free", x -> x.feed(0, 0, 0, 0, 0), NONE);
+            full.dueRefused("back of too many", x -> x.back(401 - gone), NONE);
         }
     }
 
